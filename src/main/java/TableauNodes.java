@@ -639,8 +639,8 @@ public final class TableauNodes {
     /**
      * What is said of the things, and their MODEL.
      *
-     * <p>Two types go together by role when the one has every atom that is watched by the role and
-     * whose inside holds by the other. So of a thing's type only this matters to the other things:
+     * <p>A type sees another one by a role when it has every atom that is watched by the role and
+     * whose inside holds by the other one. So of a thing's type only this matters to the other things:
      * which watched atoms it lacks, and which insides hold by it. The fewer of both, the less it
      * DEMANDS of the others, and among its types only those need be tried that demand least.
      */
@@ -671,9 +671,12 @@ public final class TableauNodes {
 
         private final long[] spare = new long[WORDS];
 
+        /** How many words have types now: with few atoms a search need not look at the others. */
+        private int words;
+
         private final int[] found = new int[THINGS];
         private boolean isFound;
-        private boolean stale = true;
+        private boolean stale;
         private int versionThen;
 
         Things(Concepts concepts, GoodTypes goods) {
@@ -717,7 +720,7 @@ public final class TableauNodes {
             }
             sortLinks();
             begin();
-            isFound = allHaveSome() && canExtend(0, EVERY_THING);
+            isFound = canExtend(0, EVERY_THING);
             for (int i = 0; i < THINGS; i++) {
                 if (isFound && !leaveFirst(i)) {
                     leaveLeast(i);
@@ -745,10 +748,10 @@ public final class TableauNodes {
                 return true;
             }
             begin();
-            for (int w = 0; w < WORDS; w++) {
+            for (int w = 0; w < words; w++) {
                 left[i * WORDS + w] &= ~concepts.word(concept, w);
             }
-            return allHaveSome() && canExtend(0, EVERY_THING);
+            return canExtend(0, EVERY_THING);
         }
 
         private void clear() {
@@ -773,9 +776,10 @@ public final class TableauNodes {
         }
 
         private void begin() {
+            words = Math.min(concepts.wordCount(), WORDS);
             for (int i = 0; i < THINGS; i++) {
                 int loop = links[i * THINGS + i];
-                for (int w = 0; w < WORDS; w++) {
+                for (int w = 0; w < words; w++) {
                     long types = goods.word(w) & said[i * WORDS + w];
                     left[i * WORDS + w] = seeingThemselves(types, loop, w);
                 }
@@ -792,25 +796,19 @@ public final class TableauNodes {
             return kept;
         }
 
-        private boolean allHaveSome() {
-            for (int i = 0; i < THINGS; i++) {
-                if (countLeft(0, i) == 0) {
-                    return false;
-                }
-            }
-            return true;
-        }
-
         private int countLeft(int level, int i) {
             int from = level * LEVEL_WORDS + i * WORDS;
             int sum = 0;
-            for (int w = 0; w < WORDS; w++) {
+            for (int w = 0; w < words; w++) {
                 sum += Long.bitCount(left[from + w]);
             }
             return sum;
         }
 
-        /** Whether the open things, each having some type left at this level, go together. */
+        /**
+         * Whether the open things go together by the types left to them at this level. A last one
+         * does: passOn has left it some.
+         */
         private boolean canExtend(int level, int open) {
             if (Integer.bitCount(open) < 2) {
                 return true;
@@ -830,7 +828,7 @@ public final class TableauNodes {
             return false;
         }
 
-        /** The open thing with the fewest types left: a clash shows soonest there. */
+        /** The open thing with the fewest types left: a clash, or that none is left, shows soonest. */
         private int mostBound(int level, int open) {
             int best = 0;
             int fewest = MOST_TYPES + 1;
@@ -856,7 +854,7 @@ public final class TableauNodes {
             }
             int from = level * LEVEL_WORDS + thing * WORDS;
             int count = 0;
-            for (int w = 0; w < WORDS; w++) {
+            for (int w = 0; w < words; w++) {
                 long types = left[from + w];
                 for (int n = Long.bitCount(types); n > 0; n--) {
                     int type = w * WORD_BITS + lowestBit(types);
@@ -892,11 +890,11 @@ public final class TableauNodes {
                 if (!hasBit(rest, j)) {
                     continue;
                 }
+                int needed = demand & links[j * THINGS + thing];
+                int banned = lacked & links[thing * THINGS + j];
                 int from = level * LEVEL_WORDS + j * WORDS;
                 long any = 0L;
-                for (int w = 0; w < WORDS; w++) {
-                    int needed = demand & links[j * THINGS + thing];
-                    int banned = lacked & links[thing * THINGS + j];
+                for (int w = 0; w < words; w++) {
                     long kept = fitting(left[from + w], needed, banned, w);
                     left[from + LEVEL_WORDS + w] = kept;
                     any |= kept;
@@ -927,7 +925,7 @@ public final class TableauNodes {
         private boolean leaveFirst(int i) {
             int first = firstLeft(i);
             keepSpare(i);
-            for (int w = 0; w < WORDS; w++) {
+            for (int w = 0; w < words; w++) {
                 left[i * WORDS + w] = 0L;
             }
             int at = i * WORDS + first / WORD_BITS;
@@ -951,8 +949,7 @@ public final class TableauNodes {
                 keepSpare(i);
                 leaveHalf(i, k, false);
                 int after = countLeft(0, i);
-                boolean will = after == before || after > 0 && canExtend(0, EVERY_THING);
-                if (!will) {
+                if (after != before && !canExtend(0, EVERY_THING)) {
                     takeSpare(i);
                     leaveHalf(i, k, true);
                 }
@@ -961,7 +958,7 @@ public final class TableauNodes {
 
         /** Leaves thing i the types with bit k alone, or those without it. */
         private void leaveHalf(int i, int k, boolean with) {
-            for (int w = 0; w < WORDS; w++) {
+            for (int w = 0; w < words; w++) {
                 long half = concepts.atomWord(k, w);
                 left[i * WORDS + w] &= with ? half : ~half;
             }
@@ -976,7 +973,7 @@ public final class TableauNodes {
         }
 
         private int firstLeft(int i) {
-            for (int w = 0; w < WORDS; w++) {
+            for (int w = 0; w < words; w++) {
                 long types = left[i * WORDS + w];
                 if (types != 0) {
                     return w * WORD_BITS + lowestBit(types);

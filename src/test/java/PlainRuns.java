@@ -9,7 +9,15 @@ public final class PlainRuns {
     public static void main(String[] args) {
         for (int run = 1; run <= 600; run++) {
             seed = run;
-            new Run(run).go();
+            new Run(run, 2 + run % 4).go(250);
+        }
+        for (int run = 601; run <= 660; run++) {
+            seed = run;
+            new Run(run, 6 + run % 4).go(120);
+        }
+        for (int run = 661; run <= 860; run++) {
+            seed = run;
+            new Run(run, 0).goByColours(150);
         }
         System.out.println(wrong == 0 ? "all answers are as due" : wrong + " answers are not as due");
         if (wrong != 0) {
@@ -31,19 +39,69 @@ public final class PlainRuns {
         private final Plain plain = new Plain();
         private final StringBuilder calls = new StringBuilder();
 
-        Run(int number) {
+        Run(int number, int mostAtoms) {
             this.number = number;
-            mostAtoms = 2 + number % 4;
+            this.mostAtoms = mostAtoms;
             roles = 1 + number / 4 % 4;
         }
 
-        void go() {
-            int makers = 4 + below(30);
+        void go(int most) {
+            int makers = 4 + below(30) + 3 * mostAtoms;
             for (int n = 0; n < makers; n++) {
                 make();
             }
-            for (int n = makers; n < 250; n++) {
+            for (int n = makers; n < most; n++) {
                 step();
+            }
+        }
+
+        /** Linked things are to differ: here a search often has to take a choice back. */
+        void goByColours(int most) {
+            int colours = 2 + number % 2;
+            for (int k = 0; k < colours; k++) {
+                int name = due("class0(" + k + ")", asked.class0(k), plain.class0(k));
+                int some = due("concept(6, 0, " + name + ")", asked.concept(6, 0, name), plain.concept(6, 0, name));
+                int not = due("concept(3, " + some + ", 0)", asked.concept(3, some, 0), plain.concept(3, some, 0));
+                due("axiom(" + name + ", " + not + ")", asked.axiom(name, not), plain.axiom(name, not));
+            }
+            for (int k = 0; k < colours; k++) {
+                int a = 2 + 3 * k;
+                int b = 2 + 3 * ((k + 1) % colours);
+                due("concept(5, " + a + ", " + b + ")", asked.concept(5, a, b), plain.concept(5, a, b));
+            }
+            for (int n = 6 * colours; n < most; n++) {
+                stepByColours(2 + 3 * colours, colours);
+            }
+        }
+
+        private void stepByColours(int firstChoice, int colours) {
+            int i = below(5);
+            int j = below(5);
+            int c = firstChoice + below(colours);
+            switch (below(16)) {
+                case 0: case 1: case 2:
+                    due("individual(" + i + ", " + c + ")", asked.individual(i, c), plain.individual(i, c));
+                    break;
+                case 3: case 4: case 5:
+                    if (i != j) {
+                        due("has(" + i + ", 0, " + j + ")", asked.has(i, 0, j), plain.has(i, 0, j));
+                    }
+                    break;
+                case 6:
+                    if (plain.run() == 0) {
+                        due("forget()", asked.forget(), plain.forget());
+                    }
+                    break;
+                case 7: case 8: case 9:
+                    due("run()", asked.run(), plain.run());
+                    break;
+                case 10: case 11: case 12:
+                    due("model(" + i + ")", asked.model(i), plain.model(i));
+                    break;
+                default:
+                    c = below(plain.count);
+                    due("surely(" + i + ", " + c + ")", asked.surely(i, c), plain.surely(i, c));
+                    break;
             }
         }
 
@@ -160,7 +218,7 @@ public final class PlainRuns {
             }
         }
 
-        private void due(String call, int got, int want) {
+        private int due(String call, int got, int want) {
             calls.append(call).append(" = ").append(want).append('\n');
             if (got != want) {
                 wrong++;
@@ -169,10 +227,11 @@ public final class PlainRuns {
                     System.out.println(calls);
                 }
             }
+            return want;
         }
     }
 
-    /** The document, word by word; nothing is kept but what was said. */
+    /** The document, word by word. */
     private static final class Plain {
         private static final int BAD = -1;
         private static final int NO = -2;
@@ -185,6 +244,10 @@ public final class PlainRuns {
         private final java.util.List<int[]> roleAxioms = new java.util.ArrayList<>();
         private final java.util.List<int[]> said = new java.util.ArrayList<>();
         private final java.util.List<int[]> links = new java.util.ArrayList<>();
+
+        /** By concept and type, and by type: null when a change came after they were worked out. */
+        private boolean[][] held = null;
+        private int[] depths = null;
 
         Plain() {
             make(0, 0, 0);
@@ -220,6 +283,7 @@ public final class PlainRuns {
             if (count == 80 || atom && atoms.size() == 10) {
                 return FULL;
             }
+            forgetWork();
             parts[count] = new int[] {kind, a, b};
             if (atom) {
                 atoms.add(count);
@@ -262,6 +326,7 @@ public final class PlainRuns {
             if (axioms.size() == 30) {
                 return FULL;
             }
+            forgetWork();
             axioms.add(new int[] {a, b});
             return axioms.size() - 1;
         }
@@ -270,6 +335,7 @@ public final class PlainRuns {
             if (axioms.isEmpty()) {
                 return NO;
             }
+            forgetWork();
             axioms.remove(axioms.size() - 1);
             return axioms.size();
         }
@@ -283,6 +349,7 @@ public final class PlainRuns {
                     return 0;
                 }
             }
+            forgetWork();
             roleAxioms.add(new int[] {r, s});
             return 1;
         }
@@ -316,6 +383,7 @@ public final class PlainRuns {
             return sum;
         }
 
+        /** A way between roles never needs more steps than there are roles. */
         private boolean under(int r, int s, int steps) {
             if (r == s) {
                 return true;
@@ -328,15 +396,33 @@ public final class PlainRuns {
             return false;
         }
 
+        private void forgetWork() {
+            held = null;
+            depths = null;
+        }
+
         private boolean holds(int c, int type) {
+            if (held == null) {
+                boolean[][] all = new boolean[count][1 << atoms.size()];
+                for (int d = 0; d < count; d++) {
+                    for (int t = 0; t < all[d].length; t++) {
+                        all[d][t] = workOut(d, t);
+                    }
+                }
+                held = all;
+            }
+            return held[c][type];
+        }
+
+        private boolean workOut(int c, int type) {
             int[] p = parts[c];
             switch (p[0]) {
                 case 0: return true;
                 case 1: return false;
-                case 3: return !holds(p[1], type);
-                case 4: return holds(p[1], type) && holds(p[2], type);
-                case 5: return holds(p[1], type) || holds(p[2], type);
-                case 7: return !holds(find(6, p[1], find(3, p[2], 0)), type);
+                case 3: return !workOut(p[1], type);
+                case 4: return workOut(p[1], type) && workOut(p[2], type);
+                case 5: return workOut(p[1], type) || workOut(p[2], type);
+                case 7: return !workOut(find(6, p[1], find(3, p[2], 0)), type);
                 default: return (type >> atoms.indexOf(c) & 1) == 1;
             }
         }
@@ -369,6 +455,13 @@ public final class PlainRuns {
         }
 
         private int[] depths() {
+            if (depths == null) {
+                depths = workOutDepths();
+            }
+            return depths;
+        }
+
+        private int[] workOutDepths() {
             int[] depths = new int[1 << atoms.size()];
             for (int type = 0; type < depths.length; type++) {
                 for (int[] ax : axioms) {
@@ -453,12 +546,47 @@ public final class PlainRuns {
             for (int r = 0; r < 4; r++) {
                 for (int type = 0; type < depths.length; type++) {
                     for (int other = 0; other < depths.length; other++) {
-                        seen[r][type][other] = sees(type, other, r);
+                        boolean both = depths[type] == 0 && depths[other] == 0;
+                        seen[r][type][other] = both && sees(type, other, r);
                     }
                 }
             }
+            if (!dropUnmatched(fits, seen)) {
+                return null;
+            }
             int[] types = new int[5];
             return extend(0, types, fits, seen) ? types : null;
+        }
+
+        /** Takes types away that have no match at one link: else a search could take for ever. */
+        private boolean dropUnmatched(boolean[][] fits, boolean[][][] seen) {
+            boolean some = true;
+            while (some) {
+                some = false;
+                for (int[] link : links) {
+                    for (int type = 0; type < fits[0].length; type++) {
+                        boolean from = false;
+                        boolean to = false;
+                        for (int other = 0; other < fits[0].length; other++) {
+                            from |= fits[link[2]][other] && seen[link[1]][type][other];
+                            to |= fits[link[0]][other] && seen[link[1]][other][type];
+                        }
+                        some |= fits[link[0]][type] && !from || fits[link[2]][type] && !to;
+                        fits[link[0]][type] &= from;
+                        fits[link[2]][type] &= to;
+                    }
+                }
+            }
+            for (boolean[] row : fits) {
+                boolean any = false;
+                for (boolean fit : row) {
+                    any |= fit;
+                }
+                if (!any) {
+                    return false;
+                }
+            }
+            return true;
         }
 
         private boolean extend(int thing, int[] types, boolean[][] fits, boolean[][][] seen) {

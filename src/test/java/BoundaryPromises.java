@@ -88,6 +88,9 @@ public final class BoundaryPromises {
 
     private static void newObject() {
         the.says("Promise 1", "THING and NOTHING alone; no axioms, nothing is said.");
+        the.due("BAD", BAD, -1);
+        the.due("NO", NO, -2);
+        the.due("FULL", FULL, -3);
         TableauNodes x = new TableauNodes();
         the.due("concepts", x.concepts(), 2);
         the.due("atoms", x.atoms(), 0);
@@ -724,6 +727,9 @@ public final class BoundaryPromises {
             the.due("not so of another thing", y.surely((i + 1) % 5, some), 0);
             the.due("again", y.has(i, r, j), 2);
             the.due("individual is counted apart", y.individual(i, 0), 2);
+            the.due("by the other role too", y.has(i, (r + 1) % 4, j), 3);
+            the.due("now that is so", y.surely(i, other), 1);
+            the.due("and the first one still", y.surely(i, some), 1);
         }
     }
 

@@ -1,3 +1,5 @@
+import java.util.Arrays;
+
 /** Each sentence of "What it is" and "Terms": its limits from both sides, and what it says exactly. */
 public final class BoundaryTerms {
     private static final int BAD = TableauNodes.BAD;
@@ -21,13 +23,16 @@ public final class BoundaryTerms {
         typeLimit();
         conceptsByType();
         seeing();
+        seeingBySomes();
         typesAtFirst();
         roundsLookBefore();
+        eachSomeHasItsOwn();
         roundsEnd();
         thingLimit();
         saidLimits();
         modelTypes();
         theModel();
+        theModelByLinks();
         the.allHeld(TERMS);
         the.end();
     }
@@ -291,18 +296,21 @@ public final class BoundaryTerms {
         checkUnder("two below one", new int[] {0, 3, 1, 3}, new int[] {9, 10, 4, 8});
     }
 
+    /** An object for each two roles, with no SOME by the roles between them: under is more than a step. */
     private static void checkUnder(String what, int[] said, int[] above) {
-        TableauNodes x = names(1);
-        for (int r = 0; r < 4; r++) {
-            x.concept(6, r, 2);
-        }
-        for (int n = 0; n < said.length; n += 2) {
-            x.role(said[n], said[n + 1]);
-        }
         for (int n = 0; n < 16; n++) {
             int r = n / 4;
             int s = n % 4;
-            the.due(what + ": " + r + " under " + s, x.below(3 + r, 3 + s), above[r] >> s & 1);
+            TableauNodes x = new TableauNodes();
+            int some = x.concept(6, r, 0);
+            int other = x.concept(6, s, 0);
+            the.due(what + ", nothing said yet", x.below(some, other), r == s ? 1 : 0);
+            for (int m = 0; m < said.length; m += 2) {
+                x.role(said[m], said[m + 1]);
+            }
+            the.due(what + ": " + r + " under " + s, x.below(some, other), above[r] >> s & 1);
+            x.has(0, r, 1);
+            the.due(what + ": has by " + r + ", so by " + s, x.surely(0, other), above[r] >> s & 1);
         }
     }
 
@@ -377,13 +385,69 @@ public final class BoundaryTerms {
         }
         x.role(2, 0);
         x.role(0, 1);
-        for (int k = 0; k < 4; k++) {
-            int not = x.concept(3, 2 + k, 0);
-            x.individual(0, (first >> k & 1) == 1 ? 2 + k : not);
-            x.individual(1, (second >> k & 1) == 1 ? 2 + k : not);
-        }
+        pin(x, 0, first, 4);
+        pin(x, 1, second, 4);
         x.has(0, r, 1);
         return x.run();
+    }
+
+    /** SOME 0 THING, SOME 1 of that, SOME 0 of that: no name among the atoms, and no role axioms. */
+    private static void seeingBySomes() {
+        the.says(TERMS, "when for all SOME s A that do not hold by the first one, r being under s, A does not "
+                + "hold by the second one.");
+        for (int n = 0; n < 256; n++) {
+            int r = n / 64;
+            int first = n / 8 % 8;
+            int second = n % 8;
+            boolean good = isGoodOfSomes(first) && isGoodOfSomes(second);
+            boolean sees = seesBySomes(first, second, r);
+            the.due(first + " sees " + second + " by " + r, pinnedSomes(first, second, r), good && sees ? 1 : 0);
+            if (first == second) {
+                the.due(first + " sees itself by " + r, pinnedLoop(first, r), good && sees ? 1 : 0);
+            }
+        }
+    }
+
+    private static boolean isGoodOfSomes(int type) {
+        return (type & 4) == 0 || (type & 1) != 0;
+    }
+
+    private static boolean seesBySomes(int first, int second, int r) {
+        boolean byNone = r == 0 && (first & 1) == 0;
+        boolean byThird = r == 0 && (first & 4) == 0 && (second & 2) != 0;
+        boolean bySecond = r == 1 && (first & 2) == 0 && (second & 1) != 0;
+        return !byNone && !byThird && !bySecond;
+    }
+
+    private static TableauNodes threeSomes() {
+        TableauNodes x = new TableauNodes();
+        x.concept(6, 0, 0);
+        x.concept(6, 1, 2);
+        x.concept(6, 0, 3);
+        return x;
+    }
+
+    private static int pinnedSomes(int first, int second, int r) {
+        TableauNodes x = threeSomes();
+        pin(x, 3, first, 3);
+        pin(x, 1, second, 3);
+        x.has(3, r, 1);
+        return x.run();
+    }
+
+    private static int pinnedLoop(int type, int r) {
+        TableauNodes x = threeSomes();
+        pin(x, 4, type, 3);
+        x.has(4, r, 4);
+        return x.run();
+    }
+
+    /** A thing with this type alone, atom k being concept 2 + k. */
+    private static void pin(TableauNodes x, int i, int type, int atoms) {
+        for (int k = 0; k < atoms; k++) {
+            int not = x.concept(3, 2 + k, 0);
+            x.individual(i, (type >> k & 1) == 1 ? 2 + k : not);
+        }
     }
 
     private static void typesAtFirst() {
@@ -445,6 +509,31 @@ public final class BoundaryTerms {
         y.axiom(0, y.concept(3, 5, 0));
         the.due("types", y.types(), 3);
         the.due("all must be A", y.depth(3), 0);
+    }
+
+    /** Two SOMEs whose insides never go together: each one is served by a type of its own. */
+    private static void eachSomeHasItsOwn() {
+        the.says(TERMS, "for some SOME r A that holds by it there is no type still there");
+        for (int r = 0; r < 4; r++) {
+            TableauNodes x = names(2);
+            x.concept(6, r, 2);
+            x.concept(6, r, 3);
+            x.concept(6, r, 0);
+            x.axiom(2, x.concept(3, 3, 0));
+            the.due("both SOMEs", x.depth(4 | 8 | 16), 0);
+            the.due("the first one", x.depth(4 | 16), 0);
+            the.due("the second one", x.depth(8 | 16), 0);
+            the.due("some that is neither", x.depth(16), 0);
+            the.due("none", x.depth(0), 0);
+            the.due("the first one, but none", x.depth(4), 1);
+            the.due("both, but none", x.depth(4 | 8), 1);
+            the.due("both insides", x.depth(3), NO);
+            x.axiom(3, 1);
+            the.due("one of both is not served", x.depth(4 | 8 | 16), 1);
+            the.due("the other one is", x.depth(4 | 16), 0);
+            x.axiom(0, x.concept(5, 2, 4));
+            the.due("some that is neither", x.depth(16), NO);
+        }
     }
 
     private static void roundsEnd() {
@@ -575,6 +664,54 @@ public final class BoundaryTerms {
                 x.has(i, 0, j);
                 the.due(i + " has " + j, x.model(i), i < j ? 0 : 2);
                 the.due(j + " is had by " + i, x.model(j), i < j ? 4 : 1);
+            }
+        }
+    }
+
+    /** Nothing is said of thing 0 but whom it has: each link asks for a bit, low and high ones. */
+    private static void theModelByLinks() {
+        the.says(TERMS, "sees by r each thing that it has by r. THE MODEL is the one with the least type of "
+                + "thing 0");
+        int[] bits = {1, 3, 6, 9};
+        for (int set = 0; set < 16; set++) {
+            TableauNodes x = new TableauNodes();
+            for (int k = 0; k < 10; k++) {
+                int r = Arrays.binarySearch(bits, k);
+                the.due("atom " + k, r < 0 ? x.class0(k) : x.concept(6, r, 2), 2 + k);
+            }
+            x.individual(1, 2);
+            int want = 0;
+            for (int r = 0; r < 4; r++) {
+                if ((set >> r & 1) != 0) {
+                    the.due("before the link", x.model(0), want);
+                    x.has(0, r, 1);
+                    want |= 1 << bits[r];
+                    the.due("after the link", x.model(0), want);
+                }
+            }
+            the.due("the other one", x.model(1), 1);
+            x.individual(0, x.concept(5, x.concept(3, 2 + 9, 0), 2 + 8));
+            the.due("the last SOME asks for a name", x.model(0), want | (set >= 8 ? 256 : 0));
+            the.due("all the others", x.model(4), 0);
+        }
+        theModelOfSome();
+    }
+
+    /** SOME THING as the first atom: bit 0 is asked for by any link. */
+    private static void theModelOfSome() {
+        for (int i = 0; i < 5; i++) {
+            for (int j = 0; j < 5; j++) {
+                TableauNodes x = new TableauNodes();
+                x.concept(6, 2, 0);
+                x.has(i, 1, j);
+                the.due("by another role", x.model(i), 0);
+                x.has(i, 2, j);
+                the.due("by its role too", x.model(i), 1);
+                x.has(i, 3, j);
+                the.due("by a third role too", x.model(i), 1);
+                the.due("no other thing", x.model((i + 1) % 5), 0);
+                x.individual(i, x.concept(3, 2, 0));
+                the.due("that can't be", x.model(i), NO);
             }
         }
     }

@@ -13,7 +13,7 @@ public final class PlainRuns {
         }
         for (int run = 601; run <= 660; run++) {
             seed = run;
-            new Run(run, 6 + run % 4).go(120);
+            new Run(run, 6 + run % 5).go(120);
         }
         for (int run = 661; run <= 860; run++) {
             seed = run;
@@ -245,9 +245,10 @@ public final class PlainRuns {
         private final java.util.List<int[]> said = new java.util.ArrayList<>();
         private final java.util.List<int[]> links = new java.util.ArrayList<>();
 
-        /** By concept and type, and by type: null when a change came after they were worked out. */
+        /** By concept and type, by type, by role and two types: null when a change came after. */
         private boolean[][] held = null;
         private int[] depths = null;
+        private boolean[][][] seen = null;
 
         Plain() {
             make(0, 0, 0);
@@ -399,6 +400,7 @@ public final class PlainRuns {
         private void forgetWork() {
             held = null;
             depths = null;
+            seen = null;
         }
 
         private boolean holds(int c, int type) {
@@ -542,20 +544,27 @@ public final class PlainRuns {
                     }
                 }
             }
-            boolean[][][] seen = new boolean[4][depths.length][depths.length];
-            for (int r = 0; r < 4; r++) {
-                for (int type = 0; type < depths.length; type++) {
-                    for (int other = 0; other < depths.length; other++) {
-                        boolean both = depths[type] == 0 && depths[other] == 0;
-                        seen[r][type][other] = both && sees(type, other, r);
-                    }
-                }
+            if (seen == null) {
+                seen = workOutSeen(depths);
             }
             if (!dropUnmatched(fits, seen)) {
                 return null;
             }
             int[] types = new int[5];
             return extend(0, types, fits, seen) ? types : null;
+        }
+
+        private boolean[][][] workOutSeen(int[] depths) {
+            boolean[][][] all = new boolean[4][depths.length][depths.length];
+            for (int r = 0; r < 4; r++) {
+                for (int type = 0; type < depths.length; type++) {
+                    for (int other = 0; other < depths.length; other++) {
+                        boolean both = depths[type] == 0 && depths[other] == 0;
+                        all[r][type][other] = both && sees(type, other, r);
+                    }
+                }
+            }
+            return all;
         }
 
         /** Takes types away that have no match at one link: else a search could take for ever. */
